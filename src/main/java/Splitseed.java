@@ -5,6 +5,7 @@
 public final class Splitseed {
     private static final int NONE = -1;
     private static final int REFUSED = -9;
+    private static final int GREATEST = 2147483647;
 
     private static final int SOWERS = 6;
     private static final int MOST_ACTS = 60;
@@ -86,7 +87,7 @@ public final class Splitseed {
     public int only(int sower, int from)
             throws IndexOutOfBoundsException, IllegalArgumentException, IllegalStateException {
         Sower s = at(sower);
-        if (from == Integer.MAX_VALUE) {
+        if (from == GREATEST) {
             throw new IllegalArgumentException();
         }
         needRoom(s, 1);

@@ -1,4 +1,5 @@
 import java.lang.reflect.Constructor;
+import java.lang.reflect.Field;
 import java.lang.reflect.Method;
 import java.util.HashSet;
 import java.util.Set;
@@ -6,7 +7,7 @@ import java.util.Set;
 /**
  * What is drawn is never told, so this test looks inside: that numbers lie within their bounds, that
  * each number of a small range comes, and that sources of other seeds and split off ones go their
- * own ways.
+ * own ways, that a sower led astray is noticed.
  */
 public final class DrawsTest {
     private static final int WHOLE = 0;
@@ -38,6 +39,12 @@ public final class DrawsTest {
         private static Method open(Method method) {
             method.setAccessible(true);
             return method;
+        }
+
+        static Field open(Class<?> type, String name) throws ReflectiveOperationException {
+            Field field = type.getDeclaredField(name);
+            field.setAccessible(true);
+            return field;
         }
 
         long next(int kind, int low, int high) throws ReflectiveOperationException {
@@ -111,6 +118,53 @@ public final class DrawsTest {
         check(twin.next(LONG, 0, 0) == child.next(LONG, 0, 0), "split into itself is no child");
     }
 
+    // By the face nothing ever goes astray, so the test leads a sower astray to see it noticed.
+    private static void astray() throws ReflectiveOperationException {
+        check(!astrayObject().whole(0), "whole is right astray");
+        check(!astrayObject().longer(0), "longer is right astray");
+        check(astrayObject().below(0, Integer.MAX_VALUE) == 0, "below is right astray");
+        check(astrayObject().between(0, -1, Integer.MAX_VALUE) == 0, "between is right astray");
+        check(astrayObject().draw(0, Integer.MAX_VALUE, 20) == 0, "draw is right astray");
+        check(astrayObject().both(0, 1) == 0, "both is right astray");
+        int coins = 0;
+        Splitseed x = astrayObject();
+        for (int i = 0; i < 60; i++) {
+            coins += x.coin(0) ? 1 : 0;
+        }
+        check(coins > 0 && coins < 60, "coins right astray: " + coins);
+        x.back(0, 1);
+        check(x.whole(0), "back leaves it astray");
+        Splitseed y = astrayObject();
+        y.again(0, 0);
+        check(y.whole(0), "again leaves it astray");
+        Splitseed z = astrayObject();
+        z.begin(0, 0, 0);
+        check(z.whole(0), "begin leaves it astray");
+    }
+
+    private static Splitseed astrayObject() throws ReflectiveOperationException {
+        Splitseed x = new Splitseed();
+        Object sower = sowerOf(x, 0);
+        Object source = Source.open(sower.getClass(), "source").get(sower);
+        Source.open(source.getClass(), "state").setLong(source, 77);
+        return x;
+    }
+
+    private static Object sowerOf(Splitseed x, int sower) throws ReflectiveOperationException {
+        return java.lang.reflect.Array.get(Source.open(Splitseed.class, "sowers").get(x), sower);
+    }
+
+    private static void unsound() throws ReflectiveOperationException {
+        for (int sower = 0; sower < 6; sower++) {
+            for (String field : new String[] {"size", "generation"}) {
+                Splitseed x = new Splitseed();
+                Object s = sowerOf(x, sower);
+                Source.open(s.getClass(), field).setInt(s, field.equals("size") ? 61 : 5);
+                check(!x.isSound(), "sound with a wrong " + field);
+            }
+        }
+    }
+
     private static void check(boolean holds, String what) {
         if (!holds) {
             wrong++;
@@ -129,6 +183,8 @@ public final class DrawsTest {
         bounds(BETWEEN, -30, 30);
         kinds();
         ownWays();
+        astray();
+        unsound();
         System.out.println(wrong == 0 ? "all draws are as due" : wrong + " draws are not as due");
         if (wrong != 0) {
             System.exit(1);

@@ -23,6 +23,7 @@ public final class SplitseedTest {
         below();
         between();
         only();
+        sixtiethAct();
         draw();
         split();
         splitKeepsToItsBirth();
@@ -179,6 +180,27 @@ public final class SplitseedTest {
         fill(x, 0);
         dueThrow(ARGUMENT, x, () -> x.only(0, MAX));
         dueThrow(STATE, x, () -> x.only(0, 0));
+    }
+
+    private static void sixtiethAct() {
+        promise = "3 to 8, 10, 24: the sixtieth act";
+        for (int kind = 0; kind <= 5; kind++) {
+            Splitseed x = new Splitseed();
+            fill(x, 0);
+            x.back(0, 59);
+            doKind(x, 0, kind);
+            due(60, x.ofSower(0, 0));
+            due(5, x.tried(0));
+            int full = kind;
+            dueThrow(STATE, x, () -> {
+                doKind(x, 0, full);
+                return 0;
+            });
+        }
+        Splitseed x = new Splitseed();
+        fill(x, 0);
+        x.back(0, 59);
+        due(17, x.only(0, 17));
     }
 
     private static void draw() {
