@@ -118,6 +118,17 @@ public final class DrawsTest {
         check(twin.next(LONG, 0, 0) == child.next(LONG, 0, 0), "split into itself is no child");
     }
 
+    private static void seedsOfTheirOwn() throws ReflectiveOperationException {
+        int[] numbers = {Integer.MIN_VALUE, -1, 0, 1, 2, Integer.MAX_VALUE};
+        Set<Long> firstDraws = new HashSet<>();
+        for (int first : numbers) {
+            for (int second : numbers) {
+                long drawn = new Source(first, second).next(LONG, 0, 0);
+                check(firstDraws.add(drawn), "drawn of another seed: " + first + "," + second);
+            }
+        }
+    }
+
     // By the face nothing ever goes astray, so the test leads a sower astray to see it noticed.
     private static void astray() throws ReflectiveOperationException {
         check(!astrayObject().whole(0), "whole is right astray");
@@ -183,6 +194,7 @@ public final class DrawsTest {
         bounds(BETWEEN, -30, 30);
         kinds();
         ownWays();
+        seedsOfTheirOwn();
         astray();
         unsound();
         System.out.println(wrong == 0 ? "all draws are as due" : wrong + " draws are not as due");

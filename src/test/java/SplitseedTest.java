@@ -829,8 +829,9 @@ public final class SplitseedTest {
         due(before, toldBesideRefusals(x));
     }
 
+    // The digest alone, as the calls of one object are few; ExceptionsTest and BoundsTest ask all.
     private static void dueThrow(Class<?> want, Splitseed x, Supplier<Object> call) {
-        String before = told(x);
+        long before = x.digest();
         Object got;
         try {
             got = call.get();
@@ -838,7 +839,7 @@ public final class SplitseedTest {
             got = e.getClass();
         }
         due(want, got);
-        due(before, told(x));
+        due(before, x.digest());
     }
 
     private static void due(Object want, Object got) {
